@@ -62,9 +62,21 @@ public final class ModelTest {
         return s.append(sum(0)).toString();
     }
 
+    // What is left over of a large number by less than a hundred: sentences that differ at each place.
+    private String leftover() {
+        String pair = (1 + below(9)) + "*which+" + (1 + below(7)) + "*place";
+        String h = "(own*" + below(99) + "+deed*" + below(99) + "+(" + pair + ")*(" + pair + ")*" + (1 + below(99)) + "+pled*" + below(50) + ")";
+        int by = 30 + below(70);
+        return h + "-" + h + "/" + by + "*" + by;
+    }
+
+    private String lawOfSomeSort() {
+        return below(2) == 0 ? law() : leftover();
+    }
+
     private String text(int most) {
         StringBuilder s = new StringBuilder();
-        int cases = below(most + 1);
+        int cases = below(6) == 0 ? below(most + 1) : Math.max(most - below(3), 0);
         for (int i = 0; i < cases; i++) {
             s.append("case ").append((char) ('a' + i)).append("x ").append(below(4) == 0 ? 0 : below(100)).append(' ').append(below(100)).append(";\n");
         }
@@ -77,7 +89,7 @@ public final class ModelTest {
         String[] laws = {"doom", "plea", "fee"};
         for (String law : laws) {
             if (below(2) == 0) {
-                s.append(law).append("= ").append(law()).append(';');
+                s.append(law).append("= ").append(lawOfSomeSort()).append(';');
             }
         }
         int adjourns = below(3);
@@ -85,6 +97,22 @@ public final class ModelTest {
             s.append("adjourns = ").append(adjourns == 1 ? law() : String.valueOf(30 + below(70))).append(";\t");
         }
         return s.toString();
+    }
+
+    // Names told twice and numbers too large, and now and then what is no text at all.
+    private String mistaken(String text) {
+        StringBuilder s = new StringBuilder();
+        for (int i = 0; i < text.length(); i++) {
+            char sign = text.charAt(i);
+            s.append(sign);
+            if (sign >= '0' && sign <= '9' && below(40) == 0) {
+                s.append(sign);
+            }
+            if (sign == 'x' && below(12) == 0) {
+                s.setCharAt(s.length() - 2, 'a');
+            }
+        }
+        return below(4) == 0 ? spoilt(s.toString()) : s.toString();
     }
 
     private String spoilt(String text) {
@@ -134,7 +162,7 @@ public final class ModelTest {
         int a = someone();
         int b = someone();
         int n = few(0, 6);
-        switch (below(9)) {
+        switch (below(10)) {
             case 0:
             case 1:
                 due("change(" + a + ", " + b + ")", x.change(a, b), m.change(a, b));
@@ -147,6 +175,7 @@ public final class ModelTest {
                 due("off(" + a + ")", x.off(a), m.off(a));
                 break;
             case 5:
+            case 9:
                 due("on(" + a + ")", x.on(a), m.on(a));
                 break;
             case 6:
@@ -154,7 +183,7 @@ public final class ModelTest {
                 due("plead(" + a + ")", x.plead(a), m.plead(a));
                 break;
             default:
-                n = below(3) == 0 ? few(0, 40) : few(0, 1);
+                n = below(3) > 0 ? 0 : below(3) == 0 ? few(0, 40) : few(0, 1);
                 due("sessions(" + n + ")", x.sessions(n), m.sessions(n));
         }
     }
@@ -169,6 +198,9 @@ public final class ModelTest {
                 due("hold(" + n + ")", x.hold(n), m.hold(n));
                 break;
             case 2:
+                if (below(3) > 0) {
+                    break;
+                }
                 due("restore(" + n + ")", x.restore(n), m.restore(n));
                 break;
             case 3:
@@ -255,7 +287,7 @@ public final class ModelTest {
             }
             lookAtAll();
             if (below(30) == 0) {
-                feedAndRead(spoilt(text(mostCases)));
+                feedAndRead(mistaken(text(mostCases)));
             }
         }
         for (int what = 0; what < 19; what++) {
@@ -272,6 +304,7 @@ public final class ModelTest {
             ModelTest texts = new ModelTest(run);
             for (int i = 0; i < 3; i++) {
                 texts.feedAndRead(texts.spoilt(texts.text(8)));
+                texts.feedAndRead(texts.mistaken(texts.text(7)));
             }
         }
         Due.end();

@@ -13,6 +13,7 @@ import java.util.TreeSet;
 
 /** The document once more, in the plainest form: slow, with exceptions, maps and lists, and sharing nothing with the class. */
 final class Model {
+    @SuppressWarnings("serial")
     static final class Fault extends RuntimeException {
         final int number;
         final int place;
@@ -24,6 +25,7 @@ final class Model {
         }
     }
 
+    @SuppressWarnings("serial")
     static final class DividedByZero extends RuntimeException {
         DividedByZero() {
             super(null, null, false, false);
