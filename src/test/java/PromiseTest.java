@@ -27,6 +27,8 @@ public final class PromiseTest {
         traders();
         gainAndBehind();
         restsAndSettles();
+        settlesBehindFifty();
+        settlesByTheLowest();
         shunned();
         buyers();
         lighter();
@@ -387,6 +389,12 @@ public final class PromiseTest {
             Due.is("two sessions", x.sessions(2), 2);
             Due.is("b by " + more, x.count(1), more);
         }
+        // SEED is 0 if it is not told.
+        for (int more = 0; more <= 1; more++) {
+            CaseBefore x = Due.told("case a 10 9;adjourns=" + (lot(0, 0) + more) + ";");
+            x.sessions(1);
+            Due.is("by SEED 0, " + more, x.count(1), more);
+        }
         // All adjourned: what was left over stays.
         CaseBefore x = Due.told("case a 10 9;case b 20 9;before 33;adjourns=100;");
         x.sessions(40);
@@ -459,6 +467,11 @@ public final class PromiseTest {
         x = Due.told("case a 9 0;case b 9 0;doom=if which<1 then place*10 else 50-place*10;");
         // a b: a 0 and due 0, b 40+2 and due 40: 2; b a: b 50 and due 50, a 10+2 and due 10: 2.
         each("NEAREST by DUE there", new int[] {x.best(2, -1), x.best(2, -2), x.best(2, 0)}, 2, 2, 0);
+        // INNOCENT suffers 0 but is DUE by its own place: a b: 10 and 10, 0 and 21; b a: 11 and 11, 0 and 20.
+        x = Due.told("case a 0 0;case b 0 0;doom=10+which+place*10;");
+        each("NEAREST with an INNOCENT", new int[] {x.best(2, -1), x.best(2, -2), x.best(2, 0)}, 20, 1, 1);
+        x = Due.told("case a 9 0;case b 9 0;doom=9;");
+        each("MOST of alike ones", new int[] {x.best(1, -1), x.best(1, -2), x.best(1, 0), x.best(1, 1)}, 20, 2, 0, 1);
         // Seven alike: every order is as good; the first is by the lowest.
         x = Due.told("case a 0 0;case b 0 0;case c 0 0;case d 0 0;case e 0 0;case f 0 0;case g 0 0;");
         x.go(0, 6);
@@ -513,16 +526,54 @@ public final class PromiseTest {
         x = Due.told(endless);
         Due.is("settles never", x.settles(), -2);
         Due.is("not at rest", x.count(13), 0);
-        Model m = new Model();
-        int[] w = Due.words(endless);
-        for (int i = 0; i < w.length; i += 5) {
-            m.feed(w[i], w[i + 1], w[i + 2], w[i + 3], w[i + 4]);
-        }
-        Due.is("the model reads", m.read(), 0);
+        Model m = model(endless);
         Due.is("the model settles never", m.settles(), -2);
         Due.is("rests as the model's", x.rests(), m.rests());
         x = Due.told("case a 0 0;case b 0 0;case c 0 0;doom=0;");
         each("none suffers", new int[] {x.rests(), x.settles()}, 6, 0);
+        x = Due.told("case a 0 0;case b 0 0;case c 0 0;case d 0 0;case e 0 0;case f 0 0;case g 0 0;");
+        Due.is("all orders of seven", x.rests(), 5040);
+    }
+
+    // The edge of SETTLES: a list that rests behind just 50 changes, and one behind 51.
+    private static void settlesBehindFifty() {
+        String q = "(which*57+place*338+deed*29+70)";
+        String text = "case a 93 0;case b 64 0;case c 78 0;case d 89 0;case e 50 0;case f 15 0;case g 47 0;"
+            + "doom=" + q + "*" + q + "*14-" + q + "*" + q + "*14/79*79;";
+        Due.is("behind 50", ordered(text, 0, 2, 4, 3, 5, 6, 1).settles(), 50);
+        Due.is("behind 51", ordered(text, 1, 4, 5, 2, 0, 6, 3).settles(), -2);
+    }
+
+    private static CaseBefore ordered(String text, int... dockets) {
+        CaseBefore x = Due.told(text);
+        for (int place = 0; place < dockets.length; place++) {
+            x.go(dockets[place], place);
+        }
+        each("ordered", list(x), dockets);
+        return x;
+    }
+
+    // Which two change first decides behind how many the list rests: compared with the model, by turns from other orders.
+    private static void settlesByTheLowest() {
+        String text = "case a 0 0;case b 1 0;case c 1 0;doom=if which<1 then 20-place*10 else if which<2 then place*(2-place)*30 else place*place*10-place*5;";
+        CaseBefore x = Due.told(text);
+        Model m = model(text);
+        for (int i = 0; i < 6; i++) {
+            each("by turns " + i, new int[] {x.settles(), x.rests(), x.traders(0), x.traders(1), x.traders(2)},
+                m.settles(), m.rests(), m.traders(0), m.traders(1), m.traders(2));
+            x.go(i % 3, 0);
+            m.go(i % 3, 0);
+        }
+    }
+
+    private static Model model(String text) {
+        Model m = new Model();
+        int[] w = Due.words(text);
+        for (int i = 0; i < w.length; i += 5) {
+            m.feed(w[i], w[i + 1], w[i + 2], w[i + 3], w[i + 4]);
+        }
+        Due.is("the model reads", m.read(), 0);
+        return m;
     }
 
     // Promise 23
@@ -566,6 +617,13 @@ public final class PromiseTest {
         Due.is("DOOM is less by the plea", x.buyers(), 2);
         x = Due.told("case a 40 0;case b 20 40;doom=deed-pled*5;plea=0;fee=5-pled*5;");
         Due.is("the FEE is as now", x.buyers(), 0);
+        // FEE as theirs: of b 9 for 40 by its own place and number, of c 10 (20 or 10) is as much.
+        x = Due.told("case a 40 0;case b 20 10;case c 20 40;fee=if which<2 then place*9 else which*5;");
+        Due.is("each by its own FEE", x.buyers(), 2);
+        x = Due.told("case a 40 0;case b 20 40;fee=which*20-1;");
+        Due.is("FEE of b, not of a: 19", x.buyers(), 2);
+        x = Due.told("case a 40 0;case b 20 40;fee=20-which;plea=18;");
+        Due.is("FEE of b, not of a: 19 for 18", x.buyers(), 0);
         x = Due.told("case a 0 0;case b 20 40;fee=0;");
         Due.is("INNOCENT", x.buyers(), 0);
     }
@@ -730,6 +788,13 @@ public final class PromiseTest {
         for (int wrong : new int[] {-1, 1, LOW, HIGH}) {
             Due.is("ask(" + wrong + ", 0)", x.ask(wrong, 0), -1);
         }
+        each("the edges of v", new int[] {x.ask(0, 0), x.ask(0, 999)}, 0, 0);
+        // a FIRST suffers 10, b FIRST 30, c FIRST 50, all else 0: only place 0 parts the orders.
+        CaseBefore y = Due.told("case a 0 0;case b 0 0;case c 0 0;doom=10+which*20;");
+        each("place 0 parts best", new int[] {y.ask(0, 30), y.ask(0, 31), y.fits(0, 0)}, 0, 0, 6);
+        // Behind a nobody suffers; b and c as LAST suffer 52, all others 50: place 2 tells 52 from less, places 1 and 2 alike 0 from more.
+        y = Due.told("case a 0 0;case b 9 0;case c 9 0;doom=50;");
+        each("place 1 parts worse than place 2", new int[] {y.ask(0, 51), y.ask(0, 1)}, 2, 1);
         x.tell(1, 22, true);
         x.tell(0, 41, true);
         each("one left", new int[] {x.ask(1, 22), x.ask(2, 22), x.ask(3, 22)}, 0, -2, -1);
@@ -777,6 +842,11 @@ public final class PromiseTest {
         x.on(1);
         x.undo();
         each("undone behind restore", list(x), 0, 2, 3);
+        x.hold(1);
+        Due.is("all slots", x.count(11), 3);
+        for (int wrong : new int[] {-1, -32, 3, 32, 33, LOW, HIGH}) {
+            Due.is("restore(" + wrong + ") while all are held", x.restore(wrong), false);
+        }
         CaseBefore y = new CaseBefore();
         each("of no text", new int[] {y.hold(1) ? 1 : 0, y.sessions(3), y.restore(1) ? 1 : 0, y.count(2)}, 1, 3, 1, 0);
     }
@@ -808,6 +878,7 @@ public final class PromiseTest {
         for (int what = 0; what < then.length; what++) {
             Due.is("count(" + what + ") then", x.count(what), then[what]);
         }
+        Due.is("FIRST suffers most", Due.told(TWO).count(14), 40);
         x = Due.told(CROSS);
         each("cross", new int[] {x.count(4), x.count(13), x.count(14), x.count(16), x.count(18)}, 101, 0, 51, 100, 100);
     }

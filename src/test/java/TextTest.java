@@ -131,6 +131,7 @@ public final class TextTest {
         Due.fault(many + "fee=1 1;", 1, end);
         Due.fault("before 100;" + many + "fee=1", 2, 11 + many.length() + 3);
         fine("doom=1" + "+1".repeat(198) + ";");
+        Due.is("a law of nearly all tokens", Due.told("case a 1 1;doom=1" + "-1".repeat(193) + "+99+99;").tells(0, 0, 0), 6);
         Due.fault("doom=1" + "+1".repeat(199) + ";", 2, 403);
         fine(" ".repeat(1990) + "before 1; ");
         Due.fault(" ".repeat(1991) + "before 1 ", 1, 2000);

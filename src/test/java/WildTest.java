@@ -66,8 +66,6 @@ public final class WildTest {
         CaseBefore twin = new CaseBefore();
         for (int i = 0; i < 512; i++) {
             if (random.nextInt(100) == 0) {
-                Due.feed(x, TEXTS[random.nextInt(TEXTS.length)]);
-                x.read();
                 x = new CaseBefore();
                 twin = new CaseBefore();
                 String text = TEXTS[random.nextInt(TEXTS.length)];
