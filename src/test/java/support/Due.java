@@ -8,10 +8,14 @@ final class Due {
 
     static void is(String call, long got, long want) {
         if (got != want) {
-            wrong++;
-            if (told++ < 60) {
-                System.out.println(call + " answered " + got + ", due is " + want);
-            }
+            differs(call + " answered " + got + ", due is " + want);
+        }
+    }
+
+    static void differs(String how) {
+        wrong++;
+        if (told++ < 60) {
+            System.out.println(how);
         }
     }
 
@@ -44,6 +48,26 @@ final class Due {
         return words;
     }
 
+    /** The answers one behind the other, as one row. */
+    static void row(String calls, long[] got, long... want) {
+        is("answers of " + calls, got.length, want.length);
+        for (int i = 0; i < got.length && i < want.length; i++) {
+            is(calls + ", answer " + i, got[i], want[i]);
+        }
+    }
+
+    static long[] of(long... answers) {
+        return answers;
+    }
+
+    static long[] list(CaseBefore x) {
+        long[] list = new long[x.count(1)];
+        for (int i = 0; i < list.length; i++) {
+            list[i] = x.at(i);
+        }
+        return list;
+    }
+
     static CaseBefore told(String text) {
         CaseBefore x = new CaseBefore();
         feed(x, text);
@@ -54,7 +78,11 @@ final class Due {
     static void fault(String text, int fault, int place) {
         CaseBefore x = new CaseBefore();
         feed(x, text);
-        is("fault of " + text, x.read(), fault);
-        is("place of the fault of " + text, x.place(), place);
+        is("fault of " + shortly(text), x.read(), fault);
+        is("place of the fault of " + shortly(text), x.place(), place);
+    }
+
+    private static String shortly(String text) {
+        return text.length() <= 200 ? text : text.substring(0, 60) + " .. " + text.substring(text.length() - 60);
     }
 }
