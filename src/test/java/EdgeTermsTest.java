@@ -35,6 +35,8 @@ public final class EdgeTermsTest {
         twiceAndWrongBehindTheOthers();
         aFaultChangesOnlyTheTape();
         aTextComesInPlace();
+        textBehindText();
+        fiveHundredAndTwelveCalls();
         Due.end();
     }
 
@@ -439,7 +441,7 @@ public final class EdgeTermsTest {
     private static void theTextsEnd() {
         String text = "case a 12 34;";
         for (int length = 1; length < text.length(); length++) {
-            // Where the end parts a word or a name, or leaves all well, another fault, or none, is due.
+            // A part of the first word is a NAME, with which no text begins.
             String part = text.substring(0, length);
             Due.fault(part, 1, length < 4 ? 0 : length);
             Due.fault(part + "\n ", 1, length < 4 ? 0 : length + 2);
@@ -609,5 +611,31 @@ public final class EdgeTermsTest {
         Due.is("read", x.read(), 0);
         Due.row("behind the text", Due.of(x.count(2), x.count(5), x.count(6), x.count(9), x.count(10), x.count(11), x.count(12)), 0, 0, 0, 0, 0, 0, 0);
         Due.row("nothing to be had back", Due.of(Twin.bit(x.undo()), Twin.bit(x.restore(0)), Twin.bit(x.restore(1)), Twin.bit(x.restore(2)), x.forget()), 0, 0, 0, 0, 0);
+    }
+
+    // One text behind the other, the longest that can be, with faults between: nothing of those ahead is left, nor lacks there room.
+    private static void textBehindText() {
+        CaseBefore x = new CaseBefore();
+        String sum = "+deed".repeat(190);
+        for (int i = 0; i < 8; i++) {
+            Due.feed(x, "case a 1 1;doom=" + i + sum + ";");
+            Due.row("text " + i, Due.of(x.read(), x.tells(0, 0, 0), x.tells(0, 0, 1), x.tells(0, 99, 2), x.docket(0, 6)), 0, i, 0, 24, 0);
+            Due.feed(x, "case a 1 1;adjourns=" + i + sum + i % 2 + ";");
+            Due.row("a fault behind it", Due.of(x.read(), x.tells(0, 0, 0)), 1, i);
+        }
+    }
+
+    // "An object is used for at most 512 calls": the last ones are as right as the first ones.
+    private static void fiveHundredAndTwelveCalls() {
+        CaseBefore x = new CaseBefore();
+        x.feed(0x63617365, 0x20612039, 0x39203939, 0x3b626566, 0x6f726520);
+        x.feed(0x39393b20, 0x20202020, 0x20202020, 0x20202020, 0x20202020);
+        Due.is("call 3", x.read(), 0);
+        for (int i = 1; i <= 252; i++) {
+            Due.is("sessions", x.sessions(i % 2 == 0 ? 1 : 40), i / 2 * 41 + i % 2 * 40);
+            x.on(0);
+        }
+        // 3 and 504 calls so far.
+        Due.row("the last ones", Due.of(x.count(2), x.docket(0, 3), x.count(12), x.count(9), x.then(0, 40)), 5166, 252 * 99, 252, 40, 253 * 99);
     }
 }

@@ -517,6 +517,13 @@ public final class EdgeWouldTest {
         Due.row("nobody", Due.of(x.buyers(), x.count(17)), 0, 0);
         x.change(0, 2);
         Due.row("behind c, which does not plead", Due.of(x.buyers(), x.count(17)), 2, 1);
+        // FEE is as it is now, nobody ahead pleading, and nothing of it is paid yet in what b would SUFFER then.
+        for (int fee = 9; fee <= 11; fee++) {
+            x = Due.told("case a 40 99;case b 10 99;case c 0 0;plea=10;fee=" + fee + "+pled*9;");
+            Due.is("FEE " + fee + ", and 9 more once a pleads", x.buyers(), fee < 10 ? 2 : 0);
+            x = Due.told("case a 40 99;case b 10 99;case c 0 0;plea=10;doom=purse/3;fee=" + fee + ";");
+            Due.is("DOOM by the PURSE, FEE " + fee, x.buyers(), fee < 10 ? 2 : 0);
+        }
         Due.is("INNOCENT does not buy", Due.told("case a 0 9;case b 9 9;fee=0;plea=9;doom=9;").buyers(), 0);
         x = Due.told(alike(7, 8) + "fee=0;");
         Due.row("six", Due.of(x.buyers(), x.count(17)), 126, 6);
