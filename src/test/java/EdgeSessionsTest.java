@@ -34,15 +34,6 @@ public final class EdgeSessionsTest {
         Due.end();
     }
 
-    private static int lot(int seed, int which) {
-        long h = seed;
-        for (long it : new long[] {221, which}) {
-            h = ((h ^ it) * 1103515245L + 12345L) & 0xffffffffL;
-            h = h ^ (h >> 15);
-        }
-        return (int) ((h >> 1) % 100);
-    }
-
     private static String cases(int n) {
         return "case a 1 1;case b 1 1;case c 1 1;case d 1 1;case e 1 1;case f 1 1;case g 1 1;".substring(0, 11 * n);
     }
@@ -367,7 +358,7 @@ public final class EdgeSessionsTest {
 
     private static int seedOfLot(int lot) {
         for (int seed = 0; seed <= 9999; seed++) {
-            if (lot(seed, 0) == lot) {
+            if (Due.lot(seed, 0) == lot) {
                 return seed;
             }
         }
@@ -382,7 +373,7 @@ public final class EdgeSessionsTest {
             for (int session = 0; session < 12; session++) {
                 x.sessions(1);
                 for (int d = 0; d < 7; d++) {
-                    boolean stays = lot(seed, 8 * session + d) < 60;
+                    boolean stays = Due.lot(seed, 8 * session + d) < 60;
                     Due.is("SEED " + seed + ", session " + session + ", " + d, x.docket(d, 2) == -2, !stays);
                     if (!stays) {
                         x.on(d);

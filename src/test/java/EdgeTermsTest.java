@@ -297,7 +297,7 @@ public final class EdgeTermsTest {
         Due.fault("seed 0-1;", 1, 6);
         for (int seed : new int[] {0, 1, 9998, 9999}) {
             for (int more = 0; more <= 1; more++) {
-                String text = "case a 1 1;adjourns=" + (lot(seed, 0) + more) + ";";
+                String text = "case a 1 1;adjourns=" + (Due.lot(seed, 0) + more) + ";";
                 Due.is("adjourned by SEED " + seed + " and " + more, read(text + "seed " + seed + ";").listIn(1, 0), more);
                 Due.is("by the last SEED", read("seed " + (9999 - seed) + ";" + text + "seed " + seed + ";").listIn(1, 0), more);
                 if (seed == 0) {
@@ -309,16 +309,6 @@ public final class EdgeTermsTest {
                 }
             }
         }
-    }
-
-    // The LOT by longs, as the document tells it.
-    static int lot(int seed, int which) {
-        long h = seed;
-        for (long it : new long[] {221, which}) {
-            h = ((h ^ it) * 1103515245L + 12345L) & 0xffffffffL;
-            h = h ^ (h >> 15);
-        }
-        return (int) ((h >> 1) % 100);
     }
 
     // "numbered from 0 on as they stand; all are on the LIST, as they are told"

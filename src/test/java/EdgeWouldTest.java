@@ -581,15 +581,6 @@ public final class EdgeWouldTest {
             40, 1, 0, 20, 33, 0, 10, 0);
     }
 
-    private static int lot(int seed, int which) {
-        long h = seed;
-        for (long it : new long[] {221, which}) {
-            h = ((h ^ it) * 1103515245L + 12345L) & 0xffffffffL;
-            h = h ^ (h >> 15);
-        }
-        return (int) ((h >> 1) % 100);
-    }
-
     // "YEAR by s SEEDS (1 .. 20) from the text's SEED on", the highest SEED, too.
     private static void yearBySeeds() {
         for (int seed : new int[] {0, 1, 9980, 9990, 9999}) {
@@ -601,7 +592,7 @@ public final class EdgeWouldTest {
                         for (int i = 0; i < s; i++) {
                             boolean stays = true;
                             for (int session = 0; session < n; session++) {
-                                stays &= lot(seed + i, 8 * session + d) < 55;
+                                stays &= Due.lot(seed + i, 8 * session + d) < 55;
                             }
                             kept += stays ? 1 : 0;
                         }

@@ -349,19 +349,9 @@ public final class PromiseTest {
         Due.is("sessions(0)", x.sessions(0), 42);
     }
 
-    // LOTs by hand: of SEED 0 and which 0 the first is (0 ^ 221) * 1103515245 + 12345 and so on, reckoned here once more with long.
-    private static int lot(int seed, int which) {
-        long h = seed;
-        for (long it : new long[] {221, which}) {
-            h = ((h ^ it) * 1103515245L + 12345L) & 0xffffffffL;
-            h = h ^ (h >> 15);
-        }
-        return (int) ((h >> 1) % 100);
-    }
-
     private static void adjourned() {
         // Of each case the law is its LOT in session 0, or one more: at one more it is ADJOURNED.
-        int[] lots = {lot(77, 0), lot(77, 1), lot(77, 2)};
+        int[] lots = {Due.lot(77, 0), Due.lot(77, 1), Due.lot(77, 2)};
         for (int bits = 0; bits < 8; bits++) {
             int[] law = new int[3];
             for (int d = 0; d < 3; d++) {
@@ -383,7 +373,7 @@ public final class PromiseTest {
             each("by " + bits, new int[] {x.count(1), x.count(3), x.count(6), x.count(12)}, stays, left, 0, 3 - stays);
         }
         // In the second session the LOT is that of 8 and the number.
-        int second = lot(4, 8 + 1);
+        int second = Due.lot(4, 8 + 1);
         for (int more = 0; more <= 1; more++) {
             CaseBefore x = Due.told("case a 10 9;case b 20 9;seed 4;adjourns=if session<1 then which*100 else " + (second + more) + ";");
             Due.is("two sessions", x.sessions(2), 2);
@@ -391,7 +381,7 @@ public final class PromiseTest {
         }
         // SEED is 0 if it is not told.
         for (int more = 0; more <= 1; more++) {
-            CaseBefore x = Due.told("case a 10 9;adjourns=" + (lot(0, 0) + more) + ";");
+            CaseBefore x = Due.told("case a 10 9;adjourns=" + (Due.lot(0, 0) + more) + ";");
             x.sessions(1);
             Due.is("by SEED 0, " + more, x.count(1), more);
         }
@@ -697,13 +687,13 @@ public final class PromiseTest {
         int[] two = new int[2];
         for (int seed = 9990; seed < 9990 + 20; seed++) {
             for (int d = 0; d < 2; d++) {
-                boolean stays = lot(seed, d) < 60;
+                boolean stays = Due.lot(seed, d) < 60;
                 one[d] += stays ? 1 : 0;
-                two[d] += stays && lot(seed, 8 + d) < 60 ? 1 : 0;
+                two[d] += stays && Due.lot(seed, 8 + d) < 60 ? 1 : 0;
             }
         }
         each("year", new int[] {x.year(0, 1, 20), x.year(1, 1, 20), x.year(0, 2, 20), x.year(1, 2, 20)}, one[0], one[1], two[0], two[1]);
-        each("by one seed", new int[] {x.year(0, 0, 1), x.year(0, 0, 20), x.year(0, 1, 1)}, 1, 20, lot(9990, 0) < 60 ? 1 : 0);
+        each("by one seed", new int[] {x.year(0, 0, 1), x.year(0, 0, 20), x.year(0, 1, 1)}, 1, 20, Due.lot(9990, 0) < 60 ? 1 : 0);
         for (int wrong : new int[] {-1, 41, LOW, HIGH}) {
             Due.is("year(0, " + wrong + ", 1)", x.year(0, wrong, 1), -1);
         }

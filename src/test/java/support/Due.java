@@ -68,6 +68,16 @@ final class Due {
         return list;
     }
 
+    /** LOT 100 of a SEED and a which, as the document tells it, by longs. */
+    static int lot(int seed, int which) {
+        long h = seed;
+        for (long it : new long[] {221, which}) {
+            h = ((h ^ it) * 1103515245L + 12345L) & 0xffffffffL;
+            h = h ^ (h >> 15);
+        }
+        return (int) ((h >> 1) % 100);
+    }
+
     static CaseBefore told(String text) {
         CaseBefore x = new CaseBefore();
         feed(x, text);
